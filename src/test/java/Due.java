@@ -1,0 +1,33 @@
+/** Counts the answers that are not the ones due, and ends a test accordingly. */
+final class Due {
+    private final String test;
+    private int asked = 0;
+    private int wrong = 0;
+
+    Due(String test) {
+        this.test = test;
+    }
+
+    void is(String call, long got, long want) {
+        asked++;
+        if (got != want) {
+            wrong++;
+            System.out.println(test + ": " + call + " answered " + got + ", due is " + want);
+        }
+    }
+
+    void is(String call, boolean got, boolean want) {
+        is(call, got ? 1 : 0, want ? 1 : 0);
+    }
+
+    boolean allRight() {
+        return wrong == 0;
+    }
+
+    void end() {
+        System.out.println(test + ": " + asked + " answers, " + wrong + " wrong");
+        if (wrong != 0 || asked == 0) {
+            System.exit(1);
+        }
+    }
+}

@@ -1,0 +1,89 @@
+import java.lang.reflect.Constructor;
+import java.lang.reflect.Field;
+import java.lang.reflect.Member;
+import java.lang.reflect.Method;
+import java.lang.reflect.Modifier;
+import java.util.Set;
+import java.util.TreeSet;
+
+/** The public face: the document's members, all of them and no others. */
+public final class FaceTest {
+    private static final Due DUE = new Due("FaceTest");
+
+    private static final Set<String> FACE = Set.of(
+        "int NONE", "int UNSAFE", "int UNSTRATIFIED", "ProgramFacts()",
+        "int relation(int)", "boolean fact(int,int,int,boolean)", "int literal(int,int,int,boolean)",
+        "int rule()", "boolean forget(int)", "int edit(int,int,int,int)", "boolean holds(int,int,int)",
+        "int size(int)", "int tuple(int,int)", "int ways(int,int,int)", "int stratum(int)",
+        "int line(int,int,int)", "int changes()", "boolean step(int)", "int site(int)", "int objects()");
+
+    public static void main(String[] args) {
+        DUE.is("NONE", ProgramFacts.NONE, -1);
+        DUE.is("UNSAFE", ProgramFacts.UNSAFE, -2);
+        DUE.is("UNSTRATIFIED", ProgramFacts.UNSTRATIFIED, -3);
+        DUE.is("class is public and final",
+            ProgramFacts.class.getModifiers() == (Modifier.PUBLIC | Modifier.FINAL), true);
+        Set<String> found = visibleMembers();
+        for (String member : FACE) {
+            DUE.is("face has " + member, found.contains(member), true);
+        }
+        for (String member : found) {
+            DUE.is("document has " + member, FACE.contains(member), true);
+        }
+        for (Class<?> inside : ProgramFacts.class.getDeclaredClasses()) {
+            DUE.is(inside + " is private and static",
+                Modifier.isPrivate(inside.getModifiers()) && Modifier.isStatic(inside.getModifiers()), true);
+        }
+        privateNames();
+        DUE.end();
+    }
+
+    private static Set<String> visibleMembers() {
+        Set<String> found = new TreeSet<>();
+        for (Field field : ProgramFacts.class.getDeclaredFields()) {
+            if (isVisible(field)) {
+                found.add(field.getType().getName() + " " + field.getName());
+            }
+        }
+        for (Method method : ProgramFacts.class.getDeclaredMethods()) {
+            if (isVisible(method)) {
+                found.add(method.getReturnType().getName() + " " + method.getName()
+                    + list(method.getParameterTypes()));
+            }
+        }
+        for (Constructor<?> constructor : ProgramFacts.class.getDeclaredConstructors()) {
+            if (isVisible(constructor)) {
+                found.add("ProgramFacts" + list(constructor.getParameterTypes()));
+            }
+        }
+        return found;
+    }
+
+    private static boolean isVisible(Member member) {
+        return !Modifier.isPrivate(member.getModifiers()) && !member.isSynthetic();
+    }
+
+    private static String list(Class<?>[] types) {
+        StringBuilder text = new StringBuilder("(");
+        for (int k = 0; k < types.length; k++) {
+            text.append(k == 0 ? "" : ",").append(types[k].getName());
+        }
+        return text.append(")").toString();
+    }
+
+    private static void privateNames() {
+        Set<String> names = new TreeSet<>();
+        for (Method method : ProgramFacts.class.getDeclaredMethods()) {
+            DUE.is("one method is named " + method.getName(), names.add(method.getName()), true);
+        }
+        for (Class<?> inside : ProgramFacts.class.getDeclaredClasses()) {
+            for (Method method : inside.getDeclaredMethods()) {
+                boolean taken = false;
+                for (String member : FACE) {
+                    taken |= member.contains(" " + method.getName() + "(");
+                }
+                DUE.is(method + " bears a public name", taken, false);
+            }
+        }
+    }
+}
