@@ -430,8 +430,8 @@ public final class ProgramFacts {
     }
 
     /**
-     * A head and a body. The positive literals come first in the body: they have given each
-     * variable its value when a negated one is looked at.
+     * A head and a body. The positive literals come first in the body: so each variable has its
+     * value, and one tuple is left to try, when a negated one is looked at.
      */
     private static final class Rule {
         final Literal head;
@@ -601,7 +601,9 @@ public final class ProgramFacts {
         /** The set of relations that a set of changed ones can reach through the rules, itself too. */
         int affectedBy(int changed) {
             int affected = changed;
-            for (int round = 0; round < RELATIONS; round++) {
+            int before = 0;
+            for (int round = 0; round < RELATIONS && affected != before; round++) {
+                before = affected;
                 for (int number = 0; number < RULES; number++) {
                     Rule rule = rules[number];
                     if (rule.there && (rule.reads & affected) != 0) {
@@ -654,19 +656,15 @@ public final class ProgramFacts {
                 int head = rule.head.relation;
                 boolean here = rule.there && isIn(head, affected) && book.strata[head] == stratum;
                 boolean due = rule.length == 0 || (rule.reads & news) != 0;
-                if (here && due && fire(relations, rule)) {
-                    grown |= 1 << head;
+                if (here && due) {
+                    long old = relations.tuples[head];
+                    reached = old;
+                    matchFrom(relations, rule, 0);
+                    relations.tuples[head] = reached;
+                    grown |= reached == old ? 0 : 1 << head;
                 }
             }
             return grown;
-        }
-
-        private boolean fire(Relations relations, Rule rule) {
-            reached = 0;
-            matchFrom(relations, rule, 0);
-            long old = relations.tuples[rule.head.relation];
-            relations.tuples[rule.head.relation] = old | reached;
-            return (reached & ~old) != 0;
         }
 
         private boolean bind(int term, int value) {
@@ -684,10 +682,14 @@ public final class ProgramFacts {
 
         /** Matches the body from a position on, notes the heads reached, and counts the instances. */
         private int matchFrom(Relations relations, Rule rule, int position) {
-            if (position >= rule.length) {
-                reached |= 1L << cell(valueOf[rule.head.first], valueOf[rule.head.second]);
-                return 1;
+            if (position < rule.length && position < BODY) {
+                return matchLiteral(relations, rule, position);
             }
+            reached |= 1L << cell(valueOf[rule.head.first], valueOf[rule.head.second]);
+            return 1;
+        }
+
+        private int matchLiteral(Relations relations, Rule rule, int position) {
             Literal literal = rule.body[position];
             long tuples = relations.tuples[literal.relation];
             long holding = literal.negated ? ~tuples : tuples;

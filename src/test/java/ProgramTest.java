@@ -20,6 +20,7 @@ public final class ProgramTest {
         fieldsAreApart(LOAD1, STORE1, 8, 7);
         ringsDoNotUpholdThemselves();
         waysOfPointing();
+        pointsOfAllTuples();
         DUE.end();
     }
 
@@ -181,5 +182,17 @@ public final class ProgramTest {
         DUE.is("by a load: ways(6, 5, 1)", x.ways(6, 5, 1), 1);
         DUE.is("ways(6, 5, 2)", x.ways(6, 5, 2), 0);
         DUE.is("ways(7, 1, 1)", x.ways(7, 1, 1), 0);
+    }
+
+    private static void pointsOfAllTuples() {
+        ProgramFacts x = new ProgramFacts();
+        for (int a = 0; a < 6; a++) {
+            for (int b = 0; b < 6; b++) {
+                x.edit(0, NEW, a, b);
+                DUE.is("NEW " + a + " " + b + ": tuple(6, 0)", x.tuple(6, 0), 10 * a + b);
+                DUE.is("NEW " + a + " " + b + ": ways(6, a, b)", x.ways(6, a, b), 1);
+                DUE.is("NEW " + a + " " + b + ": size(6)", x.size(6), 1);
+            }
+        }
     }
 }

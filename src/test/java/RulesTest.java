@@ -20,6 +20,7 @@ public final class RulesTest {
         waysAreInstances();
         repeatedVariablesAndValues();
         negationOverStrata();
+        allThatGrewIsFollowed();
         DUE.end();
     }
 
@@ -107,6 +108,9 @@ public final class RulesTest {
         DUE.is("unsafe head without body", make(x, 10, A, 0), -2);
         DUE.is("variable only in negated ones", make(x, 10, A, 0, 0, A, B, 0, 1, C, C, 1), -2);
         DUE.is("head's variable only in a negated one", make(x, 9, A, B, 0, A, A, 0, 1, A, B, 1), -2);
+        DUE.is("unsafe head beside a bound negated one", make(x, 9, A, B, 0, A, A, 0, 1, A, A, 1), -2);
+        DUE.is("each variable second: A", make(x, 9, 0, A), -2);
+        DUE.is("each variable second: D", make(x, 9, 0, D), -2);
         DUE.is("negated first, bound later", make(x, 10, A, 0, 1, B, A, 1, 0, A, B, 0), 6);
         DUE.is("values need no binding", make(x, 9, 1, 2, 3, 4, 5, 1), 7);
         x.edit(0, 0, 3, 4);
@@ -279,6 +283,20 @@ public final class RulesTest {
         DUE.is("size(10) of a chain again", x.size(10), 15);
         DUE.is("size(12) of a chain again", x.size(12), 0);
         DUE.is("changes() again", x.changes(), 1 + 21 + 5 + 6);
+    }
+
+    private static void allThatGrewIsFollowed() {
+        ProgramFacts x = withRelations(1, 1, 1, 1, 1);
+        // The rules that read what grows come before those that make it grow.
+        make(x, 12, A, 0, 10, A, 0, 0);
+        make(x, 13, A, 0, 11, A, 0, 0);
+        make(x, 10, A, 0, 9, A, 0, 0);
+        make(x, 11, A, 0, 9, A, 0, 0);
+        x.fact(9, 0, 0, true);
+        for (int relation = 9; relation < 14; relation++) {
+            DUE.is("size(" + relation + ")", x.size(relation), 1);
+        }
+        DUE.is("changes()", x.changes(), 5);
     }
 
     /** Gives a head and then the body, each literal as relation, two terms and 1 if negated. */
