@@ -18,9 +18,11 @@ public final class FaceTest {
         "int line(int,int,int)", "int changes()", "boolean step(int)", "int site(int)", "int objects()");
 
     public static void main(String[] args) {
+        DUE.sentence("The constants: NONE = -1 [..] UNSAFE = -2 [..] UNSTRATIFIED = -3");
         DUE.is("NONE", ProgramFacts.NONE, -1);
         DUE.is("UNSAFE", ProgramFacts.UNSAFE, -2);
         DUE.is("UNSTRATIFIED", ProgramFacts.UNSTRATIFIED, -3);
+        DUE.sentence("The public face");
         DUE.is("class is public and final",
             ProgramFacts.class.getModifiers() == (Modifier.PUBLIC | Modifier.FINAL), true);
         Set<String> found = visibleMembers();
@@ -31,8 +33,9 @@ public final class FaceTest {
             DUE.is("document has " + member, FACE.contains(member), true);
         }
         for (Class<?> inside : ProgramFacts.class.getDeclaredClasses()) {
-            DUE.is(inside + " is private and static",
-                Modifier.isPrivate(inside.getModifiers()) && Modifier.isStatic(inside.getModifiers()), true);
+            DUE.is(inside + " is private or package-visible, and static",
+                (inside.getModifiers() & (Modifier.PUBLIC | Modifier.PROTECTED)) == 0
+                    && Modifier.isStatic(inside.getModifiers()), true);
         }
         privateNames();
         DUE.end();
@@ -71,19 +74,22 @@ public final class FaceTest {
         return text.append(")").toString();
     }
 
+    /** No private method, of the class or of one inside it, bears the name of a public one. */
     private static void privateNames() {
-        Set<String> names = new TreeSet<>();
-        for (Method method : ProgramFacts.class.getDeclaredMethods()) {
-            DUE.is("one method is named " + method.getName(), names.add(method.getName()), true);
-        }
+        checkPrivateNames(ProgramFacts.class);
         for (Class<?> inside : ProgramFacts.class.getDeclaredClasses()) {
-            for (Method method : inside.getDeclaredMethods()) {
-                boolean taken = false;
-                for (String member : FACE) {
-                    taken |= member.contains(" " + method.getName() + "(");
-                }
-                DUE.is(method + " bears a public name", taken, false);
+            checkPrivateNames(inside);
+        }
+    }
+
+    private static void checkPrivateNames(Class<?> owner) {
+        for (Method method : owner.getDeclaredMethods()) {
+            boolean taken = false;
+            for (String member : FACE) {
+                taken |= member.contains(" " + method.getName() + "(");
             }
+            boolean inner = Modifier.isPrivate(method.getModifiers());
+            DUE.is(method + " bears a public name", inner && taken, false);
         }
     }
 }

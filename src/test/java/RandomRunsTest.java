@@ -1,9 +1,14 @@
 import java.util.Random;
 
-/** Long random runs of calls, each answer compared with the oracle's. The seeds are fixed. */
+/**
+ * Random runs of calls, each answer compared with the oracle's. The seeds are fixed, and no object gets
+ * more than the 512 calls that the document speaks of.
+ */
 public final class RandomRunsTest {
-    private static final int RUNS = 120;
+    private static final int RUNS = 300;
     private static final int CALLS = 512;
+    private static final int CALLS_TO_COMPARE = 140;
+    private static final int CALLS_AT_ONCE = 8;
     private static final int[] EXTREMES = {Integer.MIN_VALUE, -2, -1, 6, 9, 14, 20, 36, Integer.MAX_VALUE};
 
     private static final Due DUE = new Due("RandomRunsTest");
@@ -16,6 +21,7 @@ public final class RandomRunsTest {
     private final int wildness;
     private final ProgramFacts facts = new ProgramFacts();
     private final Oracle oracle = new Oracle();
+    private int calls = 0;
 
     private RandomRunsTest(int seed) {
         random = new Random(seed);
@@ -27,8 +33,8 @@ public final class RandomRunsTest {
         for (int seed = 0; seed < RUNS && DUE.allRight(); seed++) {
             RandomRunsTest run = new RandomRunsTest(seed);
             run.startWithRelations(seed % 4);
-            for (int call = 0; call < CALLS && DUE.allRight(); call++) {
-                run.callSomething("run " + seed + ", call " + call + ": ");
+            while (run.calls < CALLS - CALLS_TO_COMPARE - CALLS_AT_ONCE && DUE.allRight()) {
+                run.callSomething("run " + seed + ", call " + run.calls + ": ");
             }
             run.compareAll("run " + seed + ", end: ");
         }
@@ -45,8 +51,17 @@ public final class RandomRunsTest {
     private void startWithRelations(int count) {
         for (int k = 0; k < count; k++) {
             int arity = random.nextInt(4) == 0 ? 1 : 2;
-            DUE.is("relation(" + arity + ")", facts.relation(arity), oracle.relation(arity));
+            is("relation(" + arity + ")", facts.relation(arity), oracle.relation(arity));
         }
+    }
+
+    private void is(String call, long got, long want) {
+        calls++;
+        DUE.is(call, got, want);
+    }
+
+    private void is(String call, boolean got, boolean want) {
+        is(call, got ? 1 : 0, want ? 1 : 0);
     }
 
     private int upTo(int bound) {
@@ -86,29 +101,32 @@ public final class RandomRunsTest {
         } else if (kind < 11) {
             int rule = 6 + upTo(8);
             if (random.nextInt(3) == 0) {
-                DUE.is(where + "forget(" + rule + ")", facts.forget(rule), oracle.forget(rule));
+                is(where + "forget(" + rule + ")", facts.forget(rule), oracle.forget(rule));
             }
         } else if (kind < 15) {
             int line = upTo(12);
-            DUE.is(where + "step(" + line + ")", facts.step(line), oracle.step(line));
+            is(where + "step(" + line + ")", facts.step(line), oracle.step(line));
         } else {
             query(where, kind);
         }
-        DUE.is(where + "changes()", facts.changes(), oracle.changes());
-        DUE.is(where + "objects()", facts.objects(), oracle.objects());
+        if (kind < 11) {
+            is(where + "changes()", facts.changes(), oracle.changes());
+        } else if (kind < 15) {
+            is(where + "objects()", facts.objects(), oracle.objects());
+        }
     }
 
     private void change(String where) {
         if (random.nextInt(8) == 0) {
             int arity = 1 + upTo(2);
-            DUE.is(where + "relation(" + arity + ")", facts.relation(arity), oracle.relation(arity));
+            is(where + "relation(" + arity + ")", facts.relation(arity), oracle.relation(arity));
             return;
         }
         int relation = usersRelation();
         int a = upTo(6);
         int b = upTo(6);
         boolean there = random.nextInt(3) != 0;
-        DUE.is(where + "fact(" + relation + ", " + a + ", " + b + ", " + there + ")",
+        is(where + "fact(" + relation + ", " + a + ", " + b + ", " + there + ")",
             facts.fact(relation, a, b, there), oracle.fact(relation, a, b, there));
     }
 
@@ -117,7 +135,7 @@ public final class RandomRunsTest {
         int operation = upTo(7) - 1;
         int x = upTo(6);
         int y = upTo(6);
-        DUE.is(where + "edit(" + line + ", " + operation + ", " + x + ", " + y + ")",
+        is(where + "edit(" + line + ", " + operation + ", " + x + ", " + y + ")",
             facts.edit(line, operation, x, y), oracle.edit(line, operation, x, y));
     }
 
@@ -129,12 +147,12 @@ public final class RandomRunsTest {
             int a = k < 2 && random.nextInt(2) == 0 ? 10 : term();
             int b = k < 2 && random.nextInt(2) == 0 ? 11 : term();
             boolean negated = k == 0 ? random.nextInt(20) == 0 : k > 1 && random.nextInt(2) == 0;
-            DUE.is(where + "literal(" + relation + ", " + a + ", " + b + ", " + negated + ")",
+            is(where + "literal(" + relation + ", " + a + ", " + b + ", " + negated + ")",
                 facts.literal(relation, a, b, negated), oracle.literal(relation, a, b, negated));
         }
         if (random.nextInt(20) != 0) {
             int want = oracle.rule();
-            DUE.is(where + "rule()", facts.rule(), want);
+            is(where + "rule()", facts.rule(), want);
             made += want >= 0 ? 1 : 0;
             highest = Math.max(highest, oracle.stratum(head));
             unsafe += want == -2 ? 1 : 0;
@@ -148,41 +166,44 @@ public final class RandomRunsTest {
         int b = upTo(6);
         String triple = "(" + relation + ", " + a + ", " + b + ")";
         switch (kind) {
-            case 15, 16 -> DUE.is(where + "holds" + triple,
+            case 15, 16 -> is(where + "holds" + triple,
                 facts.holds(relation, a, b), oracle.holds(relation, a, b));
-            case 17 -> DUE.is(where + "size(" + relation + ")", facts.size(relation), oracle.size(relation));
+            case 17 -> is(where + "size(" + relation + ")", facts.size(relation), oracle.size(relation));
             case 18 -> {
                 int k = upTo(12);
-                DUE.is(where + "tuple(" + relation + ", " + k + ")",
+                is(where + "tuple(" + relation + ", " + k + ")",
                     facts.tuple(relation, k), oracle.tuple(relation, k));
             }
-            case 19, 20 -> DUE.is(where + "ways" + triple,
+            case 19, 20 -> is(where + "ways" + triple,
                 facts.ways(relation, a, b), oracle.ways(relation, a, b));
-            case 21 -> DUE.is(where + "stratum(" + relation + ")",
+            case 21 -> is(where + "stratum(" + relation + ")",
                 facts.stratum(relation), oracle.stratum(relation));
             case 22 -> {
                 int operation = upTo(6);
-                DUE.is(where + "line(" + operation + ", " + a + ", " + b + ")",
+                is(where + "line(" + operation + ", " + a + ", " + b + ")",
                     facts.line(operation, a, b), oracle.line(operation, a, b));
             }
-            default -> DUE.is(where + "site(" + a + ")", facts.site(a), oracle.site(a));
+            default -> is(where + "site(" + a + ")", facts.site(a), oracle.site(a));
         }
     }
 
+    /** The sizes and strata, and as much of the tuples and their ways as the calls left allow. */
     private void compareAll(String where) {
         for (int relation = -1; relation < 15; relation++) {
-            DUE.is(where + "size(" + relation + ")", facts.size(relation), oracle.size(relation));
-            DUE.is(where + "stratum(" + relation + ")", facts.stratum(relation), oracle.stratum(relation));
-            for (int k = 0; k < 37; k++) {
-                DUE.is(where + "tuple(" + relation + ", " + k + ")",
-                    facts.tuple(relation, k), oracle.tuple(relation, k));
-            }
-            for (int a = 0; a < 6; a++) {
-                for (int b = 0; b < 6; b++) {
-                    String triple = "(" + relation + ", " + a + ", " + b + ")";
-                    DUE.is(where + "ways" + triple, facts.ways(relation, a, b), oracle.ways(relation, a, b));
-                    DUE.is(where + "line" + triple, facts.line(relation, a, b), oracle.line(relation, a, b));
-                }
+            is(where + "size(" + relation + ")", facts.size(relation), oracle.size(relation));
+            is(where + "stratum(" + relation + ")", facts.stratum(relation), oracle.stratum(relation));
+        }
+        while (calls < CALLS && DUE.allRight()) {
+            int relation = random.nextInt(14);
+            int k = random.nextInt(1 + Math.max(1, oracle.size(relation)));
+            int tuple = oracle.tuple(relation, k);
+            is(where + "tuple(" + relation + ", " + k + ")", facts.tuple(relation, k), tuple);
+            boolean one = tuple >= 0 && oracle.arities.get(relation) == 1;
+            int a = tuple < 0 ? random.nextInt(6) : one ? tuple : tuple / 10;
+            int b = tuple < 0 ? random.nextInt(6) : one ? 0 : tuple % 10;
+            if (calls < CALLS) {
+                is(where + "ways(" + relation + ", " + a + ", " + b + ")",
+                    facts.ways(relation, a, b), oracle.ways(relation, a, b));
             }
         }
     }
