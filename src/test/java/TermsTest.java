@@ -22,6 +22,8 @@ public final class TermsTest {
         leastSets();
         stratumAfterStratum();
         allThatGrewIsFollowed();
+        eachRelationIsFollowed();
+        longestChain();
         justTheirFacts();
         DUE.end();
     }
@@ -263,6 +265,49 @@ public final class TermsTest {
         for (int relation = 9; relation < 14; relation++) {
             DUE.is("size(" + relation + ")", x.size(relation), 0);
         }
+    }
+
+    private static void eachRelationIsFollowed() {
+        DUE.sentence("after every edit all that follows is kept right [whatever relation it follows from]");
+        for (int relation = 0; relation < 9; relation++) {
+            for (int negated = 0; negated < 2; negated++) {
+                ProgramFacts x = Make.withRelations(2);
+                Make.rule(x, 9, 2, 3, relation, 1, 1, negated);
+                DUE.is("before: size(9)", x.size(9), negated);
+                int operation = relation < 6 ? relation : relation == 8 ? Make.STORE1 : Make.STORE0;
+                x.edit(0, relation < 6 ? Make.NONE : Make.NEW, 1, 1);
+                x.edit(1, operation, 1, 1);
+                DUE.is("relation " + relation + ": holds", x.holds(relation, 1, 1), true);
+                DUE.is("relation " + relation + " comes: size(9)", x.size(9), 1 - negated);
+                x.edit(0, Make.NONE, 0, 0);
+                x.edit(1, Make.NONE, 0, 0);
+                DUE.is("relation " + relation + " goes: size(9)", x.size(9), negated);
+            }
+        }
+    }
+
+    private static void longestChain() {
+        DUE.sentence("after every edit all that follows is kept right [however far it is]");
+        ProgramFacts x = Make.withRelations(2, 2, 2, 2);
+        for (int a = 0; a < 5; a++) {
+            x.fact(12, a, a + 1, true);
+        }
+        // Each relation counts through all its tuples, one by one, and then starts the next one.
+        for (int relation = 11; relation >= 9; relation--) {
+            Make.rule(x, relation, C, 0, relation, A, 5, 0, 12, A, C, 0);
+            Make.rule(x, relation, A, D, relation, A, B, 0, 12, B, D, 0);
+            if (relation > 9) {
+                Make.rule(x, relation, 0, 0, relation - 1, 5, 5, 0);
+            }
+        }
+        DUE.is("without a start: size(9)", x.size(9), 0);
+        x.fact(9, 0, 0, true);
+        DUE.is("changes()", x.changes(), 108);
+        DUE.is("size(11)", x.size(11), 36);
+        x.fact(12, 4, 5, false);
+        DUE.is("without a link: size(9)", x.size(9), 5);
+        DUE.is("size(10)", x.size(10), 0);
+        DUE.is("changes() after", x.changes(), 1 + 31 + 72);
     }
 
     private static void justTheirFacts() {
